@@ -39,6 +39,7 @@ public final class PromisesTest {
         promise19Sum();
         withoutTable();
         writingFromEitherCopy();
+        bytesBesideTheArrays();
         System.out.println(wrong == 0 ? "all promises hold" : wrong + " answers are not as due");
         if (wrong != 0) {
             System.exit(1);
@@ -390,8 +391,23 @@ public final class PromisesTest {
         due("one within the other", faultOfTwo(4, 16, 8, 9), 7);
         due("one around the other", faultOfTwo(8, 9, 4, 16), 7);
         due("the same blocks", faultOfTwo(8, 9, 8, 9), 7);
+        faultsOfEachEntry();
         faultsOfMarks();
         faultsOfFreeEntries();
+    }
+
+    private static void faultsOfEachEntry() {
+        for (int i = 0; i < 8; i++) {
+            TwinTables x = formatted(16);
+            x.poke(2 + i / 4, i % 4 * 128 + 8, 1);
+            x.poke(2 + i / 4, i % 4 * 128 + 32, 4);
+            x.poke(2 + i / 4, i % 4 * 128 + 40, 12);
+            x.seal(0);
+            due("entry " + i + " alone", x.fault(0), 0);
+            x.poke(2 + i / 4, i % 4 * 128 + 32, 3);
+            x.seal(0);
+            due("entry " + i + " alone with a bad FIRST", x.fault(0), 7);
+        }
     }
 
     private static void faultsOfMarks() {
@@ -490,7 +506,9 @@ public final class PromisesTest {
         due("make with all wrong", x.make(3, 4, 0, 7, 0), TwinTables.NO_TYPE);
         due("make with bad blocks", x.make(3, 4, 1, 7, 0), TwinTables.BAD_RANGE);
         due("make with a taken block", x.make(4, 4, 1, 7, 0), TwinTables.TAKEN);
-        due("make with the same mark", x.make(11, 11, 1, 7, 0), TwinTables.SAME_MARK);
+        for (int i = 0; i < 8; i++) {
+            due("make with the mark of entry " + i, x.make(11, 11, 1, i, 0), TwinTables.SAME_MARK);
+        }
         due("make without a free entry", x.make(11, 11, 1, 8, 0), TwinTables.FULL);
         due("make round all", x.make(4, 20, 1, 8, 0), TwinTables.TAKEN);
         due("make up to the last one", x.make(11, 19, 1, 8, 0), TwinTables.TAKEN);
@@ -834,6 +852,36 @@ public final class PromisesTest {
                 dueTable("call " + call + " without copy " + broken, x, guid(77), array(want, other));
                 due("guard() behind call " + call, x.guard(), call == 4);
             }
+        }
+    }
+
+    /** The bytes before and behind an array look like entries here; they are none. */
+    private static void bytesBesideTheArrays() {
+        byte[] beside = entry(10, 11, 5, 9, 5, "beside");
+        for (int copy = 0; copy < 2; copy++) {
+            TwinTables x = formatted(16);
+            int before = copy == 0 ? 1 : 12;
+            int behind = copy == 0 ? 4 : 15;
+            for (int place = 0; place < 58; place++) {
+                x.poke(before, 384 + place, beside[place]);
+                if (copy == 0) {
+                    x.poke(behind, place, beside[place]);
+                }
+            }
+            x.poke(copy == 0 ? 15 : 1, 0, 0);
+            due("source()", x.source(), copy);
+            due("count() with bytes beside the array", x.count(), 0);
+            due("room() with bytes beside the array", x.room(), 9);
+            int[] ends = {-1, 8};
+            for (int i : ends) {
+                due("field(" + i + ", 0)", x.field(i, 0), 0);
+                due("field(" + i + ", 3)", x.field(i, 3), 0);
+                due("letter(" + i + ", 0)", x.letter(i, 0), 0);
+                due("rename(" + i + ", 0)", x.rename(i, 0, 'x'), false);
+                due("move(" + i + ", 5, 5)", x.move(i, 5, 5), false);
+                due("remove(" + i + ")", x.remove(i), false);
+            }
+            due("make on blocks and with a mark told beside the array", x.make(10, 11, 1, 9, 0), 0);
         }
     }
 }
