@@ -1,16 +1,8 @@
-import java.nio.ByteBuffer;
-import java.nio.ByteOrder;
-import java.nio.charset.StandardCharsets;
-import java.util.zip.CRC32;
-
 /**
  * One group of calls for each promise of the document: ordinary inputs, the edges that it names, wrong inputs.
  * Every object gets fewer than 512 calls, since the document promises nothing beyond them.
  */
-public final class PromisesTest {
-    private static final int[] EXTREMES = {-1, Integer.MIN_VALUE, Integer.MAX_VALUE};
-    private static int wrong = 0;
-
+public final class PromisesTest extends DiskChecks {
     public static void main(String[] args) {
         promise1NewObject();
         promise2Blocks();
@@ -40,70 +32,10 @@ public final class PromisesTest {
         withoutTable();
         writingFromEitherCopy();
         bytesBesideTheArrays();
-        System.out.println(wrong == 0 ? "all promises hold" : wrong + " answers are not as due");
-        if (wrong != 0) {
-            System.exit(1);
-        }
+        end("all promises hold");
     }
 
-    // ---- what a test says
-
-    private static void due(String call, long got, long want) {
-        if (got != want) {
-            wrong++;
-            System.out.println(call + " answered " + got + ", due is " + want);
-        }
-    }
-
-    private static void due(String call, boolean got, boolean want) {
-        due(call, got ? 1 : 0, want ? 1 : 0);
-    }
-
-    // ---- the disk as the document tells it, made without the program
-
-    private static int crc(byte[] bytes) {
-        CRC32 crc = new CRC32();
-        crc.update(bytes);
-        return (int) crc.getValue();
-    }
-
-    private static ByteBuffer row(int size) {
-        return ByteBuffer.allocate(size).order(ByteOrder.LITTLE_ENDIAN);
-    }
-
-    private static byte[] guid(long k) {
-        return row(16).putLong(k).putLong(k * 2862933555777941757L + 3037000493L).array();
-    }
-
-    private static byte[] guardBlock(int n) {
-        return row(512).put(450, (byte) 238).putInt(454, 1).putInt(458, n - 1)
-            .put(510, (byte) 85).put(511, (byte) 170).array();
-    }
-
-    private static byte[] headerBlock(int n, int copy, byte[] mark, byte[] array) {
-        ByteBuffer b = row(512);
-        b.put("EFI PART".getBytes(StandardCharsets.ISO_8859_1)).putInt(65536).putInt(92).putInt(0).putInt(0);
-        b.putLong(copy == 0 ? 1 : n - 1).putLong(copy == 0 ? n - 1 : 1).putLong(4).putLong(n - 4).put(mark);
-        b.putLong(copy == 0 ? 2 : n - 3).putInt(8).putInt(128).putInt(crc(array));
-        byte[] fields = java.util.Arrays.copyOf(b.array(), 92);
-        return b.putInt(16, crc(fields)).array();
-    }
-
-    private static byte[] entry(long first, long last, long type, long mark, long attributes, String name) {
-        ByteBuffer b = row(128).put(guid(type)).put(guid(mark)).putLong(first).putLong(last).putLong(attributes);
-        for (int k = 0; k < name.length(); k++) {
-            b.putChar(name.charAt(k));
-        }
-        return b.array();
-    }
-
-    private static byte[] array(byte[]... entries) {
-        ByteBuffer b = row(1024);
-        for (byte[] e : entries) {
-            b.put(e);
-        }
-        return b.array();
-    }
+    // ---- looks at a disk by the sums of its blocks
 
     private static void dueBlock(String what, TwinTables x, int block, byte[] want) {
         due(what + ": the sum of block " + block, x.sum(block, 0, 512), crc(want));
@@ -133,22 +65,6 @@ public final class PromisesTest {
         for (int b = 0; b < before.length; b++) {
             due(what + " must leave block " + b + ", whose sum", x.sum(b, 0, 512), before[b]);
         }
-    }
-
-    private static TwinTables formatted(int n) {
-        TwinTables x = new TwinTables(n);
-        x.format(77);
-        return x;
-    }
-
-    private static void pokeNumber(TwinTables x, int block, int place, int size, long value) {
-        for (int k = 0; k < size; k++) {
-            x.poke(block, place + k, (int) (value >>> (8 * k)));
-        }
-    }
-
-    private static void flip(TwinTables x, int block, int place) {
-        x.poke(block, place, x.peek(block, place) ^ 1);
     }
 
     // ---- the promises
@@ -882,6 +798,10 @@ public final class PromisesTest {
                 due("remove(" + i + ")", x.remove(i), false);
             }
             due("make on blocks and with a mark told beside the array", x.make(10, 11, 1, 9, 0), 0);
+            for (int place = 0; place < 58; place++) {
+                x.poke(before, 384 + place, beside[place]);
+            }
+            due("fault(" + copy + ") with a partition told beside the array too", x.fault(copy), 0);
         }
     }
 }
