@@ -39,8 +39,8 @@ public final class AnyArgumentsTest extends DiskChecks {
     }
 
     private static int[] edges(int n) {
-        return new int[] {LEAST, LEAST + 1, -513, -512, -1, 0, 1, 3, 4, 5, 7, 8, 11, 12, n - 4, n - 3, n - 1, n, n + 1, 35, 36,
-            511, 512, 513, 1 << 22, 1 << 23, GREATEST - 511, GREATEST};
+        return new int[] {LEAST, LEAST + 1, -513, -512, -1, 0, 1, 3, 4, 5, 7, 8, 11, 12,
+            n - 4, n - 3, n - 1, n, n + 1, 35, 36, 511, 512, 513, 1 << 22, 1 << 23, GREATEST - 511, GREATEST};
     }
 
     private static void senseless(TwinTables x, int seed) {

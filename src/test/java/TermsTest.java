@@ -1,6 +1,9 @@
 import java.util.Arrays;
 
-/** The sentences of the document's "Terms" that name an edge, each by a test of its own, on disks of 12, 16 and 24 blocks. */
+/**
+ * The sentences of the document's "Terms" that name an edge, each by a test of its own, on disks of 12, 16 and
+ * 24 blocks.
+ */
 public final class TermsTest extends DiskChecks {
     private static final int[] CHANGES = {1, 128, 255};
 
@@ -682,7 +685,8 @@ public final class TermsTest extends DiskChecks {
                     flip(x, headerOf(n, 1 - copy), 0);
                     callThatWrites(x, call);
                     for (int place = from; place < from + 140; place++) {
-                        due("byte " + place + " of header " + copy + " behind call " + call, x.peek(headerOf(n, copy), place), 0);
+                        due("byte " + place + " of header " + copy + " behind call " + call,
+                            x.peek(headerOf(n, copy), place), 0);
                     }
                 }
             }
