@@ -42,7 +42,8 @@ public final class TwinTables {
     public void format(long disk) {
         writeGuard();
         front.clearEntries();
-        writeBoth(front, disk, guidTail(disk));
+        front.setDiskMark(disk);
+        writeTable(front);
     }
 
     public boolean seal(int copy) {
@@ -232,12 +233,8 @@ public final class TwinTables {
     }
 
     private void writeTable(Copy table) {
-        writeBoth(table, table.diskMark(), table.diskMarkTail());
-    }
-
-    private void writeBoth(Copy entries, long mark, long markTail) {
-        front.write(entries, mark, markTail);
-        back.write(entries, mark, markTail);
+        front.write(table);
+        back.write(table);
     }
 
     private void writeGuard() {
@@ -456,8 +453,11 @@ public final class TwinTables {
             bytes.setNumber(header + Header.OWN_SUM, 4, headerSum());
         }
 
-        void write(Copy entries, long mark, long markTail) {
-            bytes.carry(entries.array, array, ARRAY_BYTES);
+        void write(Copy table) {
+            // Read before the header is cleared, because the table may be this copy's own.
+            long mark = table.diskMark();
+            long markTail = table.diskMarkTail();
+            bytes.carry(table.array, array, ARRAY_BYTES);
             bytes.clear(header, BLOCK_BYTES);
             bytes.setNumber(header + Header.SIGNATURE, 8, Header.SIGNATURE_VALUE);
             bytes.setNumber(header + Header.VERSION, 4, Header.VERSION_VALUE);
@@ -480,6 +480,11 @@ public final class TwinTables {
 
         long diskMarkTail() {
             return bytes.number(header + Header.DISK_MARK + 8, 8);
+        }
+
+        void setDiskMark(long k) {
+            bytes.setNumber(header + Header.DISK_MARK, 8, k);
+            bytes.setNumber(header + Header.DISK_MARK + 8, 8, guidTail(k));
         }
 
         boolean isLike(Copy other) {
