@@ -16,7 +16,7 @@ public final class ModelTest {
     private final TwinTables x;
     private final Model model;
     private final int n;
-    private final int damage;
+    private final int calm;
 
     private ModelTest(int run) {
         this.run = run;
@@ -25,7 +25,7 @@ public final class ModelTest {
         x = new TwinTables(blocks);
         model = new Model(blocks);
         n = model.n;
-        damage = 1 + random.nextInt(12);
+        calm = 1 + random.nextInt(12);
     }
 
     public static void main(String[] args) {
@@ -43,7 +43,7 @@ public final class ModelTest {
         x.format(run);
         model.format(run);
         for (int k = 0; k < CALLS; k++) {
-            String fault = random.nextInt(12) < damage ? ordinaryCall() : damagingCall();
+            String fault = random.nextInt(12) < calm ? ordinaryCall() : damagingCall();
             if (fault != null) {
                 return "run " + run + ", call " + k + ": " + fault;
             }
